@@ -34,6 +34,7 @@ public final class BestTest {
         Check.due("BY", x.row(2), Check.STATE);
         TowerWarns gigs = sea("tower 4 4;gig 0");
         Check.due("a gig out of the tower's way", gigs.row(0), leastRow(gigs, 0));
+        Check.due("only from row 9 a gig comes by", sea("tower 19 0;gig 4").row(0), 9);
         TowerWarns drawn = sea("tower 19 5;gig 0");
         Check.due("a gig that is LOST from every row", drawn.row(0), Check.NONE);
         Check.due("its row stays", drawn.of(0, 2), 0);
@@ -81,6 +82,12 @@ public final class BestTest {
         y.hours(6);
         Check.sea(y, "tower 1 0;ship 0;dark 6;dark 7;dark 8;dark 9;dark 10;dark 11");
         Check.due("at night by the tower a boat is first that comes by", y.kind(1), leastKind(y, 1));
+        TowerWarns dawn = new TowerWarns();
+        dawn.hours(10);
+        Check.sea(dawn, "tower 16 5;ship 4 at 16");
+        Check.due("by night beside the tower steamers stand, and the gig is fast by day", dawn.kind(0), 5);
+        dawn.set(0, 3, 5);
+        Check.due("but mail with COST stands no more", dawn.kind(0), 4);
         TowerWarns z = sea("tower 1 0;ship 0");
         z.reach(0);
         Check.due("in row 0 by day nobody turns: NONE", z.kind(0), Check.NONE);
@@ -122,6 +129,11 @@ public final class BestTest {
         Check.due("a steamer must see it two columns off", fast.shine(1), 2);
         TowerWarns mail = night("mail 5 at 7");
         Check.due("mail sees two further", mail.shine(1), 1);
+        TowerWarns once = night("steamer 5 at 2;ship 5 at 4");
+        once.lamp(64);
+        Check.due("only now it burns: the ship must see it six columns off, the steamer eight", once.shine(6), 8);
+        once.set(0, 1, 0);
+        Check.due("ten columns off is too far", once.shine(6), 6);
         x.lamp(0);
         x.set(0, 2, 5);
         Check.due("in the dark it is all the same", x.shine(2), 0);
@@ -181,6 +193,12 @@ public final class BestTest {
         Check.due("one LOST already", lost.site(20), leastSite(lost, 20));
         TowerWarns gig = sea("gig 0;gig 9;gig 5;drifter 0");
         Check.due("gigs", gig.site(5), leastSite(gig, 5));
+        TowerWarns seen = sea("ship 3;ship 6");
+        Check.due("where nobody sees it in an hour", seen.site(1), 40);
+        Check.due("where nobody sees it in two hours", seen.site(2), 50);
+        Check.due("where nobody sees it in sixteen hours", seen.site(16), 190);
+        Check.sea(seen, "drifter 0 at 18;drifter 1 at 18");
+        Check.due("nor runs on it", seen.site(16), 192);
         for (int n : new int[] {Integer.MIN_VALUE, -1, 0, 41, Integer.MAX_VALUE}) {
             Check.due("site(" + n + ")", x.site(n), Check.BEYOND);
         }

@@ -2,6 +2,7 @@
 public final class HoursTest {
     public static void main(String[] args) {
         hours();
+        lastHour();
         turningAway();
         theGigTurnsIn();
         seaEdges();
@@ -42,6 +43,22 @@ public final class HoursTest {
         }
         Check.due("late hour", x.now(0), 30102);
         Check.due("late hour of the day", x.now(1), 30102 % 12);
+    }
+
+    /** Takes more calls than an object is promised for: the document's limit can't be reached with fewer. */
+    private static void lastHour() {
+        TowerWarns x = new TowerWarns();
+        for (int i = 0; i < 999; i++) {
+            x.hours(100);
+        }
+        Check.due("one hour too many", x.hours(100), Check.STATE);
+        Check.due("up to the last", x.hours(99), 0);
+        Check.due("the last hour", x.now(0), 99999);
+        Check.due("no more", x.hours(1), Check.STATE);
+        Check.due("BEYOND before STATE", x.hours(0), Check.BEYOND);
+        Check.due("STATE told", x.status(4), 2);
+        x.ship(0, 0);
+        Check.due("a look ahead still goes on", x.comes(0), 20);
     }
 
     private static void turningAway() {

@@ -138,6 +138,12 @@ public final class TextTest {
         fault("ship 3 at 4 at 5", 12);
         fault("shipat 3", 0);
         fault("ships 3", 0);
+        fault("shipa 3", 0);
+        fault("shipz 3", 0);
+        fault("ship`3", 4);
+        fault("ship{3", 4);
+        fault("ship/3", 4);
+        fault("ship 3<", 6);
         fault("shi 3", 0);
         fault("at 3", 0);
         fault("3", 0);
