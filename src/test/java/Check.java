@@ -1,4 +1,5 @@
 import java.nio.charset.StandardCharsets;
+import java.util.List;
 
 /** What the tests share: comparing an answer with the one that is due, and feeding a text. */
 final class Check {
@@ -25,6 +26,20 @@ final class Check {
 
     static void holds(String what, boolean yes) {
         due(what, yes ? 1 : 0, 1);
+    }
+
+    /** Tells the first row alone in which two lists differ. */
+    static void same(String what, List<String> got, List<String> want) {
+        asked++;
+        for (int i = 0; i < Math.max(got.size(), want.size()); i++) {
+            String one = i < got.size() ? got.get(i) : "nothing";
+            String other = i < want.size() ? want.get(i) : "nothing";
+            if (!one.equals(other)) {
+                wrong++;
+                System.out.println(what + ": " + one + ", due is " + other);
+                return;
+            }
+        }
     }
 
     static void feed(TowerWarns x, String text) {
