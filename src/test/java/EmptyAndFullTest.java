@@ -12,6 +12,7 @@ public final class EmptyAndFullTest {
         noImage();
         anImageOfNothing();
         anImageOfAll();
+        nothingIsLeftOfOneBefore();
         whatAnImageLeaves();
         objectsAreApart();
         Check.end("EmptyAndFullTest");
@@ -275,6 +276,37 @@ public final class EmptyAndFullTest {
         x.set(2, 3, 78);
         x.undo();
         Check.due("32: the latest is what it becomes", x.of(2, 3), 77);
+    }
+
+    /** Ships that were LOST or BY, with COST and NEAR, are undone, and others come in their numbers. */
+    private static void nothingIsLeftOfOneBefore() {
+        TowerWarns x = new TowerWarns();
+        x.image();
+        for (int i = 0; i < 6; i++) {
+            x.ship(3, 5);
+            x.set(i, 1, i % 2 == 0 ? 9 : 19);
+            x.set(i, 3, 50 + i);
+        }
+        x.hours(1);
+        Check.due("three are LOST", x.now(6), 0b010101);
+        Check.due("three are BY", x.now(7), 0b101010);
+        Check.due("32: undo", x.undo(), 0);
+        Check.due("5: none is LOST", x.now(6), 0);
+        Check.due("5: none is BY", x.now(7), 0);
+        Check.due("34: no COST", x.count(3), 0);
+        Check.due("13: none is LOST ahead", x.then(0, 0), 0);
+        Check.due("13: none is BY ahead", x.then(0, 1), 0);
+        Check.due("21: nobody is nearest", x.nearest(0), Check.NONE);
+        x.ship(1, 2);
+        x.ship(2, 3);
+        Check.due("24: two more", Check.sea(x, "mail 4 at 7;gig 5 at 8"), 2);
+        int[][] due = {{1, 0, 2}, {2, 0, 3}, {4, 7, 4}, {5, 8, 5}};
+        for (int ship = 0; ship < due.length; ship++) {
+            for (int what = 0; what < 7; what++) {
+                int want = what < 3 ? due[ship][what] : what == 4 ? 99 : 0;
+                Check.due("6: as new, what " + what + " of " + ship, x.of(ship, what), want);
+            }
+        }
     }
 
     private static void whatAnImageLeaves() {

@@ -16,6 +16,8 @@ public final class LimitsTest {
         hoursAhead();
         soonestAndLatest();
         hoursOfWhatIsBest();
+        firstAndLastSite();
+        leastAndMostOfTheBest();
         bytesOfAFeed();
         numbersOfASheet();
         bitsOfANumber();
@@ -291,6 +293,48 @@ public final class LimitsTest {
         Check.due("21: 1 HOUR", z.nearest(1), 0);
         Check.due("21: 100 HOURS", z.nearest(100), 1);
         Check.due("21: 101 HOURS", z.nearest(101), Check.BEYOND);
+    }
+
+    private static TowerWarns sea(String text) {
+        TowerWarns x = new TowerWarns();
+        Check.holds("'" + text + "' is a sea", Check.sea(x, text) > 0);
+        return x;
+    }
+
+    /** The gig turns but for a tower in its ROW; each ship sees the tower in its COLUMN and the three behind it. */
+    private static void firstAndLastSite() {
+        Check.due("20: the last place of all", sea("gig 9;ship 9;ship 9 at 4;ship 9 at 8;ship 9 at 12;ship 9 at 15").site(1), 199);
+        Check.due("20: none beyond it", sea("gig 9;ship 9;ship 9 at 4;ship 9 at 8;ship 9 at 12;ship 9 at 16").site(1), 0);
+        Check.due("20: the first place", sea("gig 0").site(1), 0);
+        Check.due("20: the first COLUMN, the last ROW", sea("gig 9").site(1), 9);
+    }
+
+    private static void leastAndMostOfTheBest() {
+        Check.due("16: ROW 0", sea("ship 5").row(0), 0);
+        Check.due("16: ROW 9", sea("tower 19 0;gig 4").row(0), 9);
+        Check.due("17: KIND 0", sea("drifter 5 at 19").kind(0), 0);
+        TowerWarns dawn = new TowerWarns();
+        dawn.hours(10);
+        Check.sea(dawn, "tower 16 5;ship 4 at 16");
+        Check.due("17: KIND 5", dawn.kind(0), 5);
+        TowerWarns night = new TowerWarns();
+        night.hours(6);
+        Check.sea(night, "ship 2 at 10");
+        Check.due("19: the hour that it is", night.hour(1), 6);
+        TowerWarns last = new TowerWarns();
+        last.hours(11);
+        Check.sea(last, "ship 2 at 10");
+        Check.due("19: the last hour of the day", last.hour(1), 11);
+        last.lamp(0);
+        Check.due("19: the first hour of the day", last.hour(1), 0);
+        TowerWarns shone = new TowerWarns();
+        shone.hours(6);
+        Check.sea(shone, "steamer 5 at 2");
+        shone.lamp(64);
+        Check.due("18: REACH 8, than which none need be more", shone.shine(6), 8);
+        shone.reach(9);
+        Check.due("18: whatever it is now", shone.shine(6), 8);
+        Check.due("18: REACH 0", shone.shine(1), 0);
     }
 
     private static void bytesOfAFeed() {

@@ -181,6 +181,9 @@ public final class TextEdgesTest {
                 fault(word.substring(cut) + numbers, 0);
                 fault(word.substring(0, cut) + " " + word.substring(cut) + numbers, 0);
             }
+            for (int i = 0; i < word.length(); i++) {
+                fault(word.substring(0, i) + "x" + word.substring(i + 1) + numbers, 0);
+            }
             fault(word + "a" + numbers, 0);
             fault(word + "z" + numbers, 0);
             fault("a" + word + numbers, 0);
