@@ -5,6 +5,7 @@ public final class EmptyAndFullTest {
         noShips();
         sixShips();
         allCost();
+        allButOne();
         sheetsOfNone();
         sheetsOfForty();
         sheetsThatAreMissing();
@@ -123,6 +124,25 @@ public final class EmptyAndFullTest {
         x.lamp(4095);
         Check.due("34: in all hours", x.count(2), 12);
         Check.due("19: COST held with every lamp", x.hour(60), 0);
+    }
+
+    /** By night, where only the last of six is still to be saved, or still to pay. */
+    private static void allButOne() {
+        TowerWarns lost = new TowerWarns();
+        lost.hours(6);
+        for (int i = 0; i < 6; i++) {
+            lost.ship(i < 5 ? 3 : 0, 5);
+            lost.set(i, 1, 9);
+        }
+        Check.due("18: five are LOST with any REACH, the sixth but with 0", lost.shine(1), 1);
+        TowerWarns cost = new TowerWarns();
+        cost.hours(6);
+        for (int i = 0; i < 6; i++) {
+            cost.ship(0, 2);
+            cost.set(i, 1, 10);
+            cost.set(i, 3, i < 5 ? 9999 : 9998);
+        }
+        Check.due("19: COST of five is held, the sixth's grows but in the dark", cost.hour(1), 6);
     }
 
     private static void sheetsOfNone() {
